@@ -472,10 +472,16 @@ public final class TimeIndex {
         }
 
         void fill(int length, int cell) {
-            shorten(0);
-            for (int n = 0; n < length; n++) {
-                add(cell);
+            if (length < 0 || length > CELLS_MOST) {
+                return;
             }
+            if (length > cells.length) {
+                cells = new int[length];
+            }
+            for (int n = 0; n < length && n < cells.length; n++) {
+                cells[n] = cell;
+            }
+            size = length;
         }
 
         void copyFrom(Row other) {
@@ -661,7 +667,9 @@ public final class TimeIndex {
             for (int n = 0; n <= TOKENS_MOST && fault == 0 && !atEnd(); n++) {
                 parseTell();
             }
-            if (fault == 0 && wrongPlace != NONE) {
+            if (fault != 0) {
+                faultPlace = tokens.places.at(at);
+            } else if (wrongPlace != NONE) {
                 fault = WRONG;
                 faultPlace = wrongPlace;
             }
@@ -806,10 +814,10 @@ public final class TimeIndex {
             }
         }
 
+        /** The first one counts; from then on no TOKEN is taken, so its place stays where it is. */
         private void fail(int number) {
             if (fault == 0) {
                 fault = number;
-                faultPlace = tokens.places.at(at);
             }
         }
     }
@@ -1078,6 +1086,12 @@ public final class TimeIndex {
                 }
             }
             return NONE;
+        }
+
+        /** Whether what began at one time, if anything did, lives at another. */
+        boolean livesAt(int from, int t) {
+            int to = tos.at(from);
+            return puts.at(from) == 1 && from <= t && (to == LACKS || t < to);
         }
 
         boolean isVersion(int from, int key) {
@@ -1521,7 +1535,7 @@ public final class TimeIndex {
         }
     }
 
-    /** Questions about KEYS: answered from what happened, which a table by KEY is filled with. */
+    /** Questions about KEYS: answered from what happened, with a table by KEY where their order counts. */
     private static final class KeyAsker {
         private final History history;
         private final Row table;
@@ -1541,27 +1555,23 @@ public final class TimeIndex {
             }
         }
 
-        private int filledIn(int lo, int hi) {
-            int filled = 0;
-            for (int key = lo; key <= hi; key++) {
-                if (table.at(key) != NONE) {
-                    filled++;
+        int livingIn(int lo, int hi, int t) {
+            int living = 0;
+            for (int from = 1; from <= t; from++) {
+                int key = history.keys.at(from);
+                if (key >= lo && key <= hi && history.livesAt(from, t)) {
+                    living++;
                 }
             }
-            return filled;
-        }
-
-        int livingIn(int lo, int hi, int t) {
-            fillTable(table, t);
-            return filledIn(lo, hi);
+            return living;
         }
 
         int totalIn(int lo, int hi, int t) {
-            fillTable(table, t);
             int total = 0;
-            for (int key = lo; key <= hi; key++) {
-                if (table.at(key) != NONE) {
-                    total += history.values.at(table.at(key));
+            for (int from = 1; from <= t; from++) {
+                int key = history.keys.at(from);
+                if (key >= lo && key <= hi && history.livesAt(from, t)) {
+                    total += history.values.at(from);
                 }
             }
             return total;
@@ -1582,23 +1592,25 @@ public final class TimeIndex {
         }
 
         int fromKeyUp(int least, int t) {
-            fillTable(table, t);
-            for (int key = least; key < KEYS; key++) {
-                if (table.at(key) != NONE) {
-                    return key;
+            int best = LACKS;
+            for (int from = 1; from <= t; from++) {
+                int key = history.keys.at(from);
+                if (key >= least && (best == LACKS || key < best) && history.livesAt(from, t)) {
+                    best = key;
                 }
             }
-            return LACKS;
+            return best;
         }
 
         int fromKeyDown(int greatest, int t) {
-            fillTable(table, t);
-            for (int key = greatest; key >= 0; key--) {
-                if (table.at(key) != NONE) {
-                    return key;
+            int best = LACKS;
+            for (int from = 1; from <= t; from++) {
+                int key = history.keys.at(from);
+                if (key <= greatest && key > best && history.livesAt(from, t)) {
+                    best = key;
                 }
             }
-            return LACKS;
+            return best;
         }
 
         int differences(int lo, int hi, int t, int u) {
@@ -1623,7 +1635,13 @@ public final class TimeIndex {
                     table.change(history.keys.at(from), from);
                 }
             }
-            return filledIn(lo, hi);
+            int filled = 0;
+            for (int key = lo; key <= hi; key++) {
+                if (table.at(key) != NONE) {
+                    filled++;
+                }
+            }
+            return filled;
         }
 
         int timesOf(int key, int t, int u) {
@@ -1789,20 +1807,18 @@ public final class TimeIndex {
 
         private void comeBelow(int page, int lo, int hi, int t) {
             int end = pages.endSlot(page);
-            for (int slot = pages.firstSlot(page); slot < end; slot++) {
-                if (pages.livesAt(slot, t) && lo <= hi && spanMeets(page, slot, lo, hi, t)) {
+            for (int slot = pages.firstSlot(page); slot < end && lo <= hi; slot++) {
+                if (!pages.livesAt(slot, t)) {
+                    continue;
+                }
+                int bound = pages.keys.at(slot);
+                int after = pages.slotAfter(page, bound, t);
+                boolean isLeast = pages.slotToward(page, bound - 1, t) == NONE;
+                boolean endsBehindLo = after == NONE || lo < pages.keys.at(after);
+                if (endsBehindLo && (isLeast || bound <= hi)) {
                     come.add(pages.values.at(slot));
                 }
             }
-        }
-
-        private boolean spanMeets(int page, int slot, int lo, int hi, int t) {
-            int bound = pages.keys.at(slot);
-            int after = pages.slotAfter(page, bound, t);
-            boolean isLeast = pages.slotToward(page, bound - 1, t) == NONE;
-            int first = isLeast ? 0 : bound;
-            int end = after == NONE ? KEYS : pages.keys.at(after);
-            return first <= hi && lo < end;
         }
     }
 }
