@@ -3,6 +3,7 @@ public final class HoldTest {
     public static void main(String[] args) {
         newObject();
         holdAndRestore();
+        otherWaysOn();
         allIsHeld();
         tapeAndPlace();
         slots();
@@ -54,6 +55,32 @@ public final class HoldTest {
         x.cut(9);
         x.restore(2);
         Check.due("promise 36: the later one", x.has(9, 3), 1);
+    }
+
+    /** What came on one way on from a SLOT is not seen on another. */
+    private static void otherWaysOn() {
+        TimeIndex x = new TimeIndex();
+        x.put(1, 10);
+        x.hold(0);
+        x.cut(1);
+        x.put(2, 20);
+        x.put(2, 21);
+        x.hold(1);
+        x.restore(0);
+        x.put(5, 50);
+        x.put(6, 60);
+        x.cut(1);
+        x.put(7, 70);
+        Check.due("promise 36: four came on this way", x.room(1), 4);
+        x.restore(1);
+        int[] all = new int[12];
+        for (int n = 0; n < 12; n++) {
+            all[n] = x.entry(0, n / 4, n % 4);
+        }
+        Check.due("promise 36: the other way", all, 1, 1, 2, 10, 2, 3, 4, 20, 2, 4, -2, 21);
+        Check.due("promise 36: VERSIONS on it", x.version(2, 0, 1), 4);
+        Check.due("promise 36: none of the other's", x.versions(5), 0);
+        Check.due("promise 36: one lives", x.count(1), 1);
     }
 
     /** Everything that can be asked is as it was, also of pages and ROOTS. */

@@ -28,7 +28,9 @@ public final class TapeTest {
         Check.due("promise 3: back(2000)", x.back(2000), -1);
         Check.due("promise 3: back(most)", x.back(Integer.MAX_VALUE), -1);
         Check.due("promise 3: nothing went", x.count(6), 1999);
-        Check.due("promise 3: back(19)", x.back(19), 1980);
+        Check.due("promise 3: back(18)", x.back(18), 1981);
+        Check.due("promise 2: feed beyond by 1", x.feed(1, 2, 3, 4, 5), -1);
+        Check.due("promise 3: back(1)", x.back(1), 1980);
         Check.due("promise 2: feed to 2,000", x.feed(1, 2, 3, 4, 5), 2000);
         Check.due("promise 3: back(2000)", x.back(2000), 0);
         Check.due("promise 3: back(1) of none", x.back(1), -1);
