@@ -476,6 +476,12 @@ public final class AskEdgesTest {
         x.put(2, 2);
         Check.due(s + "no more", x.thin(23), 0);
         Check.due(s + "as of then it is", x.thin(22), 1);
+        x = Check.told("page 6; do 16; put i i; end; do 12; cut i; end; do 6; put 12 i; end;");
+        Check.due(s + "below a new ROOT", x.root(34), 19);
+        Check.due(s + "its first page is empty", x.held(34, 2) == 6 ? x.leaf(0, 34) : -1, 14);
+        Check.due(s + "that one", x.thin(34), 1);
+        Check.due(s + "deep", x.deep(34), 2);
+        Check.due(s + "deep ahead", x.deep(33), 3);
     }
 
     private static void heldNow() {
