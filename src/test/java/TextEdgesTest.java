@@ -23,6 +23,8 @@ public final class TextEdgesTest {
         restWithTheSignOfTheFirst();
         dividedBy0();
         roundsFrom0On();
+        roundsOfTheTextAhead();
+        readsAfreshBehindAFault();
         variablesAsTheyAre();
         keyBy1000();
         firstFaultByPlace();
@@ -207,6 +209,10 @@ public final class TextEdgesTest {
         good(s, "put ((((((1))))))((((((2))))));");
         good(s, "cut ((((((1)))))+(((((2))))));");
         good(s, "cut (1)+(2)+(3)+(4)+(5)+(6)+(7)+(8);");
+        TimeIndex x = Check.told("put ((((((12)))))) ((((((34)))))); put 5 5; cut ((((((5))))));");
+        Check.due(s + " | six deep: KEY and value", x.value(12, 3), 34);
+        Check.due(s + " | six deep: the KEY of a CUT", x.has(5, 3), 0);
+        worth(s, "((((((1+2)*2)*2)*2)*2)*2)", 96);
         fault(s, "cut (((((((1)))))));", 2, 10);
         fault(s, "put 1 2*((((((3%(4;", 2, 16);
         fault(s, "cut ((((((1)))))+((((((2)))))));", 2, 22);
@@ -284,6 +290,35 @@ public final class TextEdgesTest {
         Check.due(s + " | behind the third", x.value(501, now), 10);
         Check.due(s + " | behind the second", x.value(601, now), 10);
         Check.due(s + " | behind all", x.value(700, now), 1);
+    }
+
+    /** The text ahead is left at its 400th PUT, in the fifth round of one DO and the fourth of the one in it. */
+    private static void roundsOfTheTextAhead() {
+        String s = "i .. j .. (0 without): none are left of the text ahead";
+        TimeIndex x = Check.told("do 99;do 99;put 5 i*10+j;end;end;");
+        Check.due(s + " | the text ahead", x.value(5, 400), 34);
+        Check.due(s + " | a text without rounds", Check.read(x, "put 6 i*10+j+1;do 1;put 7 i*10+j+1;end;"), 0);
+        Check.due(s + " | about none", x.value(6, 1), 1);
+        Check.due(s + " | about one", x.value(7, 2), 1);
+        Check.due(s + " | last", Check.read(x, "put last+8 1;") == 0 ? x.has(8, 1) : -1, 1);
+    }
+
+    private static void readsAfreshBehindAFault() {
+        String s = "text: .. behind a FAULT in the midst of DO's and ('s";
+        TimeIndex x = new TimeIndex();
+        Check.due(s + " | three DO's", Check.read(x, "do 1;do 1;do 1;"), 1);
+        Check.due(s + " | no END is due", Check.read(x, "put 1 1;"), 0);
+        Check.due(s + " | three DO's", Check.read(x, "do 1;do 1;do 1;put (((((("), 1);
+        Check.due(s + " | no END goes on", Check.read(x, "end;"), 1);
+        Check.due(s + " | at its place", x.place(), 0);
+        Check.due(s + " | three again", Check.read(x, "do 1;do 1;do 1;cut ((((((1))))));end;end;end;"), 0);
+        Check.due(s + " | a wrong number", Check.read(x, "do 100;end;"), 5);
+        Check.due(s + " | a right one", Check.read(x, "do 9;end;"), 0);
+        Check.due(s + " | another PAGE", Check.read(x, "page 13;"), 5);
+        Check.due(s + " | none", Check.read(x, "put 1 1;"), 0);
+        Check.due(s + " | B", x.count(2), 8);
+        Check.due(s + " | a 401st TOKEN", Check.read(x, "put 1 1;".repeat(101)), 2);
+        Check.due(s + " | 400", Check.read(x, "put 1 1;".repeat(100)), 0);
     }
 
     private static void variablesAsTheyAre() {
