@@ -30,7 +30,7 @@ public final class ModelTest {
 
     private void run() {
         boolean mostlyGrows = random.nextBoolean();
-        int cutShare = random.nextInt(60);
+        int cutShare = random.nextInt(random.nextBoolean() ? 60 : 100);
         if (random.nextInt(8) > 0) {
             tellText(new TextMaker(random, keys).make());
         }

@@ -24,8 +24,10 @@ final class TextMaker {
             add(";");
         }
         int shape = random.nextInt(10);
-        if (shape < 6) {
+        if (shape < 3) {
             grower();
+        } else if (shape < 7) {
+            shrinker();
         } else {
             tells(1 + random.nextInt(shape == 9 ? 40 : 6), 0);
         }
@@ -52,6 +54,32 @@ final class TextMaker {
             add("do"); add("99"); add(";");
             add("cut"); add("i*" + (1 + random.nextInt(3)) + "%" + keys + "*" + (999 / keys)); add(";");
             add("end"); add(";");
+        }
+    }
+
+    /** KEYS that come in one order and go in another, so that pages get thin on all levels. */
+    private void shrinker() {
+        int many = 20 + random.nextInt(120);
+        int step = 1 + random.nextInt(999 / many);
+        add("do"); add("99"); add(";");
+        add("do"); add("2"); add(";");
+        add("put"); add("(" + order(many) + ")%" + many + "*" + step); add("i"); add(";");
+        add("end"); add(";"); add("end"); add(";");
+        add("do"); add("" + random.nextInt(100)); add(";");
+        add("do"); add("2"); add(";");
+        add("cut"); add("(" + order(many) + ")%" + many + "*" + step); add(";");
+        if (random.nextInt(4) == 0) {
+            add("put"); add("(" + order(many) + ")%" + many + "*" + step); add("7"); add(";");
+        }
+        add("end"); add(";"); add("end"); add(";");
+    }
+
+    /** Upwards, downwards, or by leaps from anywhere on, of the two rounds of a shrinker. */
+    private String order(int many) {
+        switch (random.nextInt(3)) {
+            case 0: return "j*2+i+" + random.nextInt(many);
+            case 1: return (random.nextInt(many) + 200) + "-j*2-i";
+            default: return "(j*2+i)*" + (1 + random.nextInt(many)) + "+" + random.nextInt(many);
         }
     }
 
